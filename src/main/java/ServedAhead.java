@@ -386,7 +386,7 @@ public final class ServedAhead {
             spare.enter(now, statute);
         }
         for (int served = 0; served <= MOST_SERVED; served++) {
-            if (spare.isCoveredNow(deed, statute)) {
+            if (spare.isCovered(deed, statute.termOf(deed), 0, statute)) {
                 return served;
             }
             spare.does(sort, statute, now);
@@ -642,11 +642,10 @@ public final class ServedAhead {
         private int size;
 
         void copy(Credits other) {
-            size = 0;
             for (int place = 0; place < other.size && place < ROOM; place++) {
                 row[place] = other.row[place];
-                size++;
             }
+            size = other.size;
         }
 
         boolean hasRoom() {
@@ -778,14 +777,12 @@ public final class ServedAhead {
             credits.dropAheadOf(law.firstThatCounts(week));
         }
 
-        /** Whether CREDITS from a week on would do for a DEED, were that its TERM. */
+        /**
+         * Whether the CREDITS from a week on would do for a DEED, were that its TERM. All
+         * that is held counts in this week, so week 0 leaves nothing out.
+         */
         boolean isCovered(int deed, int term, int firstWeek, Law law) {
             return owes == 0 && credits.howMany(law.sortsOf(deed), firstWeek) >= kind.needs(term);
-        }
-
-        /** All that is held counts now, so no week is left out. */
-        boolean isCoveredNow(int deed, Law law) {
-            return isCovered(deed, law.termOf(deed), 0, law);
         }
 
         boolean isFreeTo(int act, Law law) {
@@ -795,7 +792,8 @@ public final class ServedAhead {
             if (isServing(act)) {
                 return true;
             }
-            return isCoveredDeed(act) ? isCoveredNow(act % 10, law) : owes == 0;
+            int deed = act % 10;
+            return isCoveredDeed(act) ? isCovered(deed, law.termOf(deed), 0, law) : owes == 0;
         }
 
         /** Only behind isFreeTo(). */
@@ -966,7 +964,7 @@ public final class ServedAhead {
 
         /** The mask takes the rest by 2 to the 31 of what wraps at 2 to the 32. */
         private int drawn() {
-            seed = 1103515245 * seed + 12345 & Integer.MAX_VALUE;
+            seed = 1103515245 * seed + 12345 & 0x7fffffff;
             return seed / 65536 % DRAWS;
         }
     }
@@ -1035,8 +1033,9 @@ public final class ServedAhead {
         }
 
         /**
-         * No row gets more than this. A DEED costs its CREDITS and a week that might have
-         * given some, so all DEEDS share what is held and what the weeks could give.
+         * No row gets more than this: without it the search looks at a hundred times as
+         * many rows. A DEED costs its CREDITS and a week that might have given some, so
+         * all DEEDS share what is held and what the weeks that are left could give.
          */
         private static int mostStill(Person here, int weeksLeft, Law law) {
             int free = weeksLeft - here.owes;
@@ -1045,14 +1044,18 @@ public final class ServedAhead {
             }
             int given = here.kind.givenAWeek;
             int wealth = here.credits.size + given * free;
-            int most = 0;
+            int byWealth = 0;
+            int byWeeks = 0;
             for (int deed = 0; deed < DEEDS; deed++) {
                 int gets = here.kind.gets(law.worthOf(deed));
                 int cost = here.kind.needs(law.termOf(deed)) + given;
-                int byWealth = cost > 0 ? wealth * gets / cost : 0;
-                most = Math.max(most, byWealth);
+                int fit = here.credits.howMany(law.sortsOf(deed), 0) + given * free;
+                if (cost > 0 && fit >= cost) {
+                    byWealth = Math.max(byWealth, wealth * gets / cost);
+                    byWeeks = Math.max(byWeeks, gets * free);
+                }
             }
-            return most;
+            return Math.min(byWealth, byWeeks);
         }
     }
 

@@ -1,0 +1,99 @@
+import java.lang.reflect.Constructor;
+import java.lang.reflect.Field;
+import java.lang.reflect.Method;
+import java.lang.reflect.Modifier;
+import java.nio.file.Files;
+import java.nio.file.Path;
+import java.util.ArrayList;
+import java.util.List;
+import java.util.Set;
+import java.util.TreeSet;
+import java.util.regex.Matcher;
+import java.util.regex.Pattern;
+
+// What can be seen of LANGUAGE.md and of the document's face in the class and in its text.
+public final class RulesTest {
+  private static final Path SOURCE = Path.of("src/main/java/ServedAhead.java");
+  private static final Set<String> FACE = new TreeSet<>(List.of(
+      "int letter(int)", "int blank()", "int fault()", "int law()", "int deed(int,int)",
+      "int person(int)", "int about(int,int)", "int as(int,int)", "int may(int,int)",
+      "int act(int,int)", "int week()", "int sell(int,int,int)", "int leave(int,int)",
+      "int amnesty()", "int gain(int,int,int)", "int soon(int,int)", "int kept(int)",
+      "int book(int)", "int next(int)", "int ways()", "int owed()", "int years(int,int,int)",
+      "int image()", "int restore()", "int count(int)", "long digest()"));
+  private static int wrong = 0;
+
+  private static void hold(boolean holds, String what) {
+    if (!holds) {
+      wrong++;
+      System.out.println("not so: " + what);
+    }
+  }
+
+  private static String shape(Method m) {
+    List<String> types = new ArrayList<>();
+    for (Class<?> type : m.getParameterTypes()) types.add(type.getSimpleName());
+    return m.getReturnType().getSimpleName() + " " + m.getName() + "(" + String.join(",", types) + ")";
+  }
+
+  private static void theFace() {
+    Class<ServedAhead> c = ServedAhead.class;
+    hold(Modifier.isPublic(c.getModifiers()) && Modifier.isFinal(c.getModifiers()), "the class is public and final");
+    Set<String> open = new TreeSet<>();
+    Set<String> names = new TreeSet<>();
+    for (Method m : c.getDeclaredMethods())
+      if (!Modifier.isPrivate(m.getModifiers())) {
+        open.add(shape(m));
+        names.add(m.getName());
+        hold(Modifier.isPublic(m.getModifiers()), m.getName() + " is public or private");
+      }
+    hold(open.equals(FACE), "the methods are those of the face: " + open);
+    for (Method m : c.getDeclaredMethods())
+      if (Modifier.isPrivate(m.getModifiers())) hold(!names.contains(m.getName()), "private " + m.getName() + " has a name of its own");
+    Set<String> constants = new TreeSet<>();
+    for (Field f : c.getDeclaredFields()) {
+      if (!Modifier.isPrivate(f.getModifiers())) constants.add(f.getName());
+      hold(!Modifier.isStatic(f.getModifiers()) || Modifier.isFinal(f.getModifiers()), "static " + f.getName() + " is final");
+    }
+    hold(constants.equals(new TreeSet<>(List.of("NONE", "UNKNOWN", "OUTSIDE", "STATE", "FULL"))), "the constants: " + constants);
+    Constructor<?>[] makers = c.getDeclaredConstructors();
+    hold(makers.length == 1 && makers[0].getParameterCount() == 0 && Modifier.isPublic(makers[0].getModifiers()), "the constructor");
+    theClassesInside(c);
+  }
+
+  private static void theClassesInside(Class<?> c) {
+    Class<?>[] inside = c.getDeclaredClasses();
+    hold(inside.length <= 11, "twelve classes at most");
+    for (Class<?> one : inside) {
+      int m = one.getModifiers();
+      hold(Modifier.isStatic(m) && !Modifier.isPublic(m) && !Modifier.isProtected(m), one.getName() + " is static and not open");
+    }
+  }
+
+  private static String withoutComments(String text) {
+    return text.replaceAll("(?s)/\\*.*?\\*/", "").replaceAll("//[^\n]*", "");
+  }
+
+  private static void theText() throws Exception {
+    String text = withoutComments(Files.readString(SOURCE));
+    String[] banned = {"import", "package", "try", "catch", "finally", "throw", "synchronized", "assert",
+        "System", "Thread", "Object", "equals", "hashCode", "toString", "ordinal", "\\w+Exact", "\\w*Exception"};
+    for (String word : banned) hold(!Pattern.compile("\\b" + word + "\\b").matcher(text).find(), "no " + word);
+    hold(!text.contains("->") && !text.contains("::"), "no lambda, no method reference");
+    Pattern made = Pattern.compile("private final \\w+(\\[\\])? \\w+ = new [^;]*;|(all|rows)\\[\\w+\\] = new Person\\(\\);");
+    for (String line : text.split("\n"))
+      if (line.contains("new ")) hold(made.matcher(line.trim()).matches(), "made with its object alone: " + line.trim());
+    Matcher ends = Pattern.compile("(?m)^(    |        )(?:public|private|static|int|void|boolean|long|Kind|Person|[A-Z]\\w+\\()[^;={]*\\{\n(?s:.*?)\n\\1\\}").matcher(text);
+    while (ends.find()) {
+      boolean isClass = ends.group().matches("(?s)\\s*private (static final class|enum).*");
+      if (!isClass) hold(ends.group().lines().count() <= 60, "sixty lines at most: " + ends.group().lines().findFirst().get().trim());
+    }
+  }
+
+  public static void main(String[] args) throws Exception {
+    theFace();
+    theText();
+    System.out.println(wrong == 0 ? "the rules hold" : wrong + " rules do not hold");
+    if (wrong != 0) System.exit(1);
+  }
+}
