@@ -801,32 +801,32 @@ public final class ServedAhead {
             if (act == NO_ACT) {
                 return;
             }
-            acted = true;
             if (isServing(act)) {
-                serves(act, week);
-                return;
+                earns(act, week);
             }
-            int deed = act % 10;
             if (isCoveredDeed(act)) {
-                credits.dropOldest(law.sortsOf(deed), kind.needs(law.termOf(deed)));
-            } else {
-                owes = kind.owesFor(law.termOf(deed));
+                credits.dropOldest(law.sortsOf(act % 10), kind.needs(law.termOf(act % 10)));
             }
-            got += kind.gets(law.worthOf(deed));
+            got += getsBy(act, law);
+            owes = owesAfter(act, law);
+            acted = true;
         }
 
-        private void serves(int sort, int week) {
-            if (owes > 0) {
-                owes--;
-                return;
-            }
-            for (int given = 0; given < kind.givenAWeek; given++) {
+        private void earns(int sort, int week) {
+            for (int given = 0; owes == 0 && given < kind.givenAWeek; given++) {
                 credits.give(sort, week);
             }
         }
 
         int getsBy(int act, Law law) {
             return isCoveredDeed(act) || isBareDeed(act) ? kind.gets(law.worthOf(act % 10)) : 0;
+        }
+
+        int owesAfter(int act, Law law) {
+            if (isServing(act)) {
+                return Math.max(0, owes - 1);
+            }
+            return isBareDeed(act) ? kind.owesFor(law.termOf(act % 10)) : owes;
         }
     }
 
@@ -1062,7 +1062,7 @@ public final class ServedAhead {
     /** A BOOK, and the walk through all rows of ACTS that agree with it. */
     private static final class Ledger {
         private final int[] told = new int[BOOK_WEEKS];
-        private final Person[] rows = new Person[BOOK_WEEKS + 1];
+        private final Person[] rows = new Person[BOOK_WEEKS];
         private boolean begun;
         private int size;
         private int startWeek;
@@ -1070,7 +1070,7 @@ public final class ServedAhead {
         private int mostOwed;
 
         Ledger() {
-            for (int depth = 0; depth <= BOOK_WEEKS; depth++) {
+            for (int depth = 0; depth < BOOK_WEEKS; depth++) {
                 rows[depth] = new Person();
             }
         }
@@ -1102,30 +1102,47 @@ public final class ServedAhead {
         void walk(Law law) {
             found = 0;
             mostOwed = NONE;
-            walkFrom(0, law);
+            if (size == 0) {
+                reckon(rows[0].owes);
+            } else {
+                walkFrom(0, law);
+            }
         }
 
+        private void reckon(int owedThen) {
+            found++;
+            mostOwed = Math.max(mostOwed, owedThen);
+        }
+
+        /** The last week is only reckoned: most rows end there, and need no copy of him. */
         private void walkFrom(int depth, Law law) {
-            if (depth < 0 || depth > BOOK_WEEKS) {
+            if (depth < 0 || depth >= size || depth >= BOOK_WEEKS) {
                 return;
             }
             Person here = rows[depth];
-            if (depth >= size || depth == BOOK_WEEKS) {
-                found++;
-                mostOwed = Math.max(mostOwed, here.owes);
-                return;
-            }
             int gets = told[depth] - here.got;
             for (int place = 0; place <= ACTS.length; place++) {
                 int act = actAt(place);
-                if (here.getsBy(act, law) == gets && (act == NO_ACT || here.isFreeTo(act, law))) {
-                    Person then = rows[depth + 1];
-                    then.copy(here);
-                    then.does(act, law, startWeek + depth);
-                    then.enter(startWeek + depth + 1, law);
-                    walkFrom(depth + 1, law);
+                if (here.getsBy(act, law) != gets || act != NO_ACT && !here.isFreeTo(act, law)) {
+                    continue;
+                }
+                if (depth == size - 1) {
+                    reckon(here.owesAfter(act, law));
+                } else {
+                    goOn(depth, act, law);
                 }
             }
+        }
+
+        private void goOn(int depth, int act, Law law) {
+            if (depth < 0 || depth >= BOOK_WEEKS - 1) {
+                return;
+            }
+            Person then = rows[depth + 1];
+            then.copy(rows[depth]);
+            then.does(act, law, startWeek + depth);
+            then.enter(startWeek + depth + 1, law);
+            walkFrom(depth + 1, law);
         }
     }
 }
