@@ -736,7 +736,7 @@ public final class PromisesTest {
       due("seed " + from + ", owe", x.years(1, from, 1), owes);
       due("seed " + from + ", deeds", x.years(1, from, 2), deeds);
       due("seed " + from + ", then", x.years(1, from, 3), seed);
-      if (from % 100 == 99) x = again();
+      if (from % 50 == 49) x = again();
     }
   }
 
