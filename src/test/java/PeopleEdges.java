@@ -678,6 +678,18 @@ public final class PeopleEdges extends EdgeCases {
       due("room for two of three", x.leave(0, 1), 2);
       due("the heir has", sortsOf(x, 1), 11001);
     });
+    edge(14, "leave: they go with their weeks", () -> {
+      ServedAhead x = under("11:0/11:1/11:2/11:012;2", PERSON, PERSON);
+      serve(x, 0, 0, 1);
+      due("leave(0, 1)", x.leave(0, 1), 2);
+      due("in the last week in which both count", x.about(1, 3), 2);
+      due("the oldest", x.about(1, 7), 0);
+      x.week();
+      due("in the next week", sortsOf(x, 1), 100);
+      due("the oldest then", x.about(1, 7), 1);
+      x.week();
+      due("in the one behind that", x.about(1, 3), 0);
+    });
     edge(14, "leave: of one week those of the least SORT first", () -> {
       for (int room = 1; room <= 3; room++) {
         ServedAhead x = under(EASY, PERSON, MONK, PERSON, PERSON);

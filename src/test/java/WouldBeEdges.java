@@ -94,6 +94,17 @@ public final class WouldBeEdges extends EdgeCases {
       serve(x, 0, 0, 1);
       due("LAPSE 3: to serve, and it is not", x.gain(0, 2, 0), 5);
     });
+    edge(16, "gain: what he holds, if he did an ACT: in the next week", () -> {
+      for (int lapse = 1; lapse <= 3; lapse++) {
+        ServedAhead x = under(oneDeed(1, 5, lapse), PERSON);
+        serve(x, 0, 0);
+        x.act(0, 1);
+        due("LAPSE " + lapse + ", in week 2", x.gain(0, 2, 0), lapse < 2 ? 0 : 5);
+        due("LAPSE " + lapse + ", its first ACT", x.gain(0, 2, 1), lapse < 2 ? 0 : 10);
+        due("LAPSE " + lapse + ", in weeks 2 and 3", x.gain(0, 3, 0), 5);
+        due("LAPSE " + lapse + ", their first ACT", x.gain(0, 3, 1), 0);
+      }
+    });
     edge(16, "gain: who OWES serves first", () -> {
       String law = "49:0/59:0/19:0/90:2;9";
       ServedAhead four = under(law, BARON);
@@ -120,6 +131,16 @@ public final class WouldBeEdges extends EdgeCases {
       due("a THIEF", under(oneDeed(1, 0, 9), THIEF).gain(0, 6, 0), 3);
       due("a BARON", under(oneDeed(1, 0, 9), BARON).gain(0, 6, 0), 3);
     });
+    edge(16, "gain: the most: a DEED in each of six weeks", () -> {
+      for (int kind : new int[] {PERSON, BARON}) {
+        ServedAhead x = under(oneDeed(1, 9, 9), kind);
+        serveWeeks(x, 0, 0, 5);
+        due("five CREDITS, KIND " + kind, x.gain(0, 6, 0), kind == BARON ? 50 : 45);
+        serve(x, 0, 0);
+        due("six CREDITS, KIND " + kind, x.gain(0, 6, 0), kind == BARON ? 60 : 54);
+        due("the first ACT", x.gain(0, 6, 1), 10);
+      }
+    });
     edge(16, "gain: 12 CREDITS at most: no room until the oldest lapse", () -> {
       ServedAhead x = under("99:0/19:1/90:0/90:0;9", MONK);
       serveWeeks(x, 0, 2, 6);
@@ -137,6 +158,13 @@ public final class WouldBeEdges extends EdgeCases {
       due("SORT 1 alone", under("19:1/90:2/90:2/90:2;9", PERSON).gain(0, 2, 1), 1);
       due("SORT 2 alone", under("19:2/90:1/90:1/90:1;9", PERSON).gain(0, 2, 1), 2);
       due("SORTS 1 and 2", under("19:21/90:0/90:0/90:0;9", PERSON).gain(0, 2, 1), 1);
+    });
+    edge(16, "gain: nothing is to be gained: the least of all ACTS", () -> {
+      ServedAhead x = under(oneDeed(9, 9, 9), PERSON);
+      for (int weeks = 1; weeks <= 6; weeks++) {
+        due(weeks + ": how much", x.gain(0, weeks, 0), 0);
+        due(weeks + ": the first ACT", x.gain(0, weeks, 1), 0);
+      }
     });
     edge(16, "gain: a DEED alone begins it: 10 to 13", () -> {
       for (int deed = 0; deed < 4; deed++) {
