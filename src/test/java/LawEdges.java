@@ -240,6 +240,20 @@ public final class LawEdges extends EdgeCases {
       due("of the longest, a full PAGE", read(new ServedAhead(), LONGEST + "9"), STATE);
       due("a blank", read(new ServedAhead(), SHORTEST + " "), STATE);
     });
+    edge(5, "law: STATE: a beginning, on a PAGE that had a whole LAW before", () -> {
+      for (String law : new String[] {SHORTEST, LONGEST}) {
+        ServedAhead x = new ServedAhead();
+        put(x, law);
+        x.blank();
+        put(x, law.substring(0, law.length() - 1));
+        due("law() behind blank()", x.law(), STATE);
+        x.letter('9');
+        x.law();
+        put(x, law.substring(0, law.length() - 1));
+        due("law() behind law()", x.law(), STATE);
+        due("how often one was read", x.count(9), 1);
+      }
+    });
     edge(5, "law: four DEEDS, not three, not five", () -> {
       due("three", read(new ServedAhead(), "11:0/11:0/11:0;1"), STATE);
       due("four", read(new ServedAhead(), SHORTEST), 4);
