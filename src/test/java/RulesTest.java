@@ -40,21 +40,15 @@ public final class RulesTest {
     Class<ServedAhead> c = ServedAhead.class;
     hold(Modifier.isPublic(c.getModifiers()) && Modifier.isFinal(c.getModifiers()), "the class is public and final");
     Set<String> open = new TreeSet<>();
-    Set<String> names = new TreeSet<>();
     for (Method m : c.getDeclaredMethods())
       if (!Modifier.isPrivate(m.getModifiers())) {
         open.add(shape(m));
-        names.add(m.getName());
         hold(Modifier.isPublic(m.getModifiers()), m.getName() + " is public or private");
       }
     hold(open.equals(FACE), "the methods are those of the face: " + open);
-    for (Method m : c.getDeclaredMethods())
-      if (Modifier.isPrivate(m.getModifiers())) hold(!names.contains(m.getName()), "private " + m.getName() + " has a name of its own");
     Set<String> constants = new TreeSet<>();
-    for (Field f : c.getDeclaredFields()) {
+    for (Field f : c.getDeclaredFields())
       if (!Modifier.isPrivate(f.getModifiers())) constants.add(f.getName());
-      hold(!Modifier.isStatic(f.getModifiers()) || Modifier.isFinal(f.getModifiers()), "static " + f.getName() + " is final");
-    }
     hold(constants.equals(new TreeSet<>(List.of("NONE", "UNKNOWN", "OUTSIDE", "STATE", "FULL"))), "the constants: " + constants);
     Constructor<?>[] makers = c.getDeclaredConstructors();
     hold(makers.length == 1 && makers[0].getParameterCount() == 0 && Modifier.isPublic(makers[0].getModifiers()), "the constructor");
@@ -70,6 +64,33 @@ public final class RulesTest {
     }
   }
 
+  /** Rules 1, 2, 5 and 11, of the class and of those inside it. */
+  private static void eachClass(Class<?> c) {
+    int fields = 0;
+    for (Field f : c.getDeclaredFields()) {
+      if (Modifier.isStatic(f.getModifiers())) staticField(c, f);
+      else {
+        fields++;
+        hold(!c.isEnum() || Set.of("int", "long", "boolean", "String").contains(f.getType().getSimpleName()), "an enum's field " + f);
+      }
+    }
+    hold(fields <= 20, c.getName() + " has twenty fields at most, not " + fields);
+    for (Method m : c.getDeclaredMethods()) {
+      hold(m.getParameterCount() <= 7, m + " takes seven parameters at most");
+      hold(!Modifier.isPrivate(m.getModifiers()) || m.isSynthetic()
+          || FACE.stream().noneMatch(shape -> shape.contains(" " + m.getName() + "(")), m + " has a name of its own");
+    }
+    for (Class<?> inside : c.getDeclaredClasses()) eachClass(inside);
+  }
+
+  private static void staticField(Class<?> c, Field f) {
+    String type = f.getType().getSimpleName();
+    boolean ofEnum = c.isEnum() && (f.getType() == c || f.getType() == c.arrayType());
+    hold(Modifier.isFinal(f.getModifiers()), "static " + f + " is final");
+    hold(ofEnum || Set.of("int", "long", "boolean", "char", "String", "int[]", "long[]", "char[]", "byte[]").contains(type),
+        "static " + f + " is of a type that may be");
+  }
+
   private static String withoutComments(String text) {
     return text.replaceAll("(?s)/\\*.*?\\*/", "").replaceAll("//[^\n]*", "");
   }
@@ -80,6 +101,7 @@ public final class RulesTest {
         "System", "Thread", "Object", "equals", "hashCode", "toString", "ordinal", "\\w+Exact", "\\w*Exception"};
     for (String word : banned) hold(!Pattern.compile("\\b" + word + "\\b").matcher(text).find(), "no " + word);
     hold(!text.contains("->") && !text.contains("::"), "no lambda, no method reference");
+    hold(!Pattern.compile("while \\(true|for \\([^;)]*; *;").matcher(text).find(), "each loop has an end");
     Pattern made = Pattern.compile("private final \\w+(\\[\\])? \\w+ = new [^;]*;|(all|rows)\\[\\w+\\] = new Person\\(\\);");
     for (String line : text.split("\n"))
       if (line.contains("new ")) hold(made.matcher(line.trim()).matches(), "made with its object alone: " + line.trim());
@@ -92,6 +114,7 @@ public final class RulesTest {
 
   public static void main(String[] args) throws Exception {
     theFace();
+    eachClass(ServedAhead.class);
     theText();
     System.out.println(wrong == 0 ? "the rules hold" : wrong + " rules do not hold");
     if (wrong != 0) System.exit(1);
